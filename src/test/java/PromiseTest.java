@@ -1,3 +1,5 @@
+import java.math.BigInteger;
+
 /** For each promise ordinary inputs, the edges that the document names, and wrong inputs. */
 public final class PromiseTest {
     private static final int PLAIN = 0, SWEET = 1, DROP = 2, TURN = 3, DOUBLE = 4, FEAST = 5;
@@ -692,36 +694,25 @@ public final class PromiseTest {
         x.bridge(0, 1, SWEET, 0);
         x.bridge(0, 1, DROP, 0);
         x.bridge(0, 1, SWEET, 1);
-        // from seed 1: X is 1103527590, then 2524885223 by 2147483648 = 377401575, ..
-        long seed = 1;
-        int both = 0;
-        int one = 0;
         for (int k = 1; k <= 60; k++) {
-            seed = seed * 1103515245L + 12345L & 0x7fffffffL;
-            long says = seed >> 15 & 0xffff;
-            both += (says & 3) == 3 ? 1 : 0;
-            one += (says & 1) == 1 ? 1 : 0;
-            due("boats(0, 1, " + k + ")", x.boats(0, 1, k), both);
-            // with 1 and 2 in each other's stead: 0; 0 1; 0
-            due("flood of like needs", x.flood(0, 1, k, 1, 2), 0);
+            due("0; nothing; 1", x.boats(0, 1, k), saying(1, k, 0, 1));
         }
-        x.rule(2, PLAIN, 0);
-        due("SWEET, DROP, PLAIN", x.boats(0, 1, 60), one);
-        // DROP, SWEET, PLAIN: syllable 0 again; PLAIN, DROP, SWEET as well
-        due("flood of 0 and 1", x.flood(0, 1, 60, 0, 1), 0);
+        due("the greatest seed", x.boats(0, 999999, 60), saying(999999, 60, 0, 1));
+        due("were 1 and 2 in each other's stead: 0; 0 1; 0", x.flood(0, 1, 60, 1, 2), 0);
         x.rule(1, PLAIN, 0);
         x.rule(2, DROP, 0);
         name(x, 0, 1);
-        due("1 0; 1 0; 1", x.boats(0, 1, 60), both);
-        int onlyOne = countSaying(1, 60, 2);
-        due("were DROP ahead: 0 alone; 0 alone; nothing", x.flood(0, 1, 60, 0, 2), onlyNull(1, 60) - both);
-        due("the other way round", x.flood(0, 1, 60, 2, 0), onlyNull(1, 60) - both);
+        due("1 0; 1 0; 1", x.boats(0, 1, 60), saying(1, 60, 0, 1));
+        int more = saying(1, 60, 0) - saying(1, 60, 0, 1);
+        DUE.holds("more say one syllable than two", more > 0);
+        due("were DROP ahead: nothing; nothing; 0", x.flood(0, 1, 60, 0, 2), more);
+        due("the other way round", x.flood(0, 1, 60, 2, 0), more);
         due("one in its own stead", x.flood(0, 1, 60, 1, 1), 0);
         x.rule(0, DROP, 0);
         x.rule(2, SWEET, 3);
-        // nothing; nothing; 3 .. were SWEET ahead: 1 3; 1 3; 1
-        due("it may be below 0", x.flood(0, 1, 60, 0, 2), countSaying(1, 60, 2 | 8) - countSaying(1, 60, 8));
-        DUE.holds("it is below 0", countSaying(1, 60, 2 | 8) < countSaying(1, 60, 8) && onlyOne > 0);
+        int fewer = saying(1, 60, 1, 3) - saying(1, 60, 3);
+        DUE.holds("fewer say two syllables than one", fewer < 0);
+        due("nothing; nothing; 3, were SWEET ahead: 1 3; 1 3; 1", x.flood(0, 1, 60, 0, 2), fewer);
         int[][] wrong = {{4, 0, 0}, {-1, 0, 0}, {0, -1, 0}, {0, 1000000, 0}, {0, 0, -1}, {0, 0, 61}};
         int were = x.status(0);
         for (int[] w : wrong) {
@@ -735,20 +726,20 @@ public final class PromiseTest {
         due("refused", x.status(0) - were, 16);
     }
 
-    private static int countSaying(long seed, int n, int sounds) {
-        java.math.BigInteger x = java.math.BigInteger.valueOf(seed);
+    /** How many boats can say these syllables. */
+    private static int saying(long seed, int n, int... syllables) {
+        BigInteger x = BigInteger.valueOf(seed);
         int many = 0;
         for (int k = 0; k < n; k++) {
-            x = x.multiply(java.math.BigInteger.valueOf(1103515245)).add(java.math.BigInteger.valueOf(12345))
-                .mod(java.math.BigInteger.valueOf(2147483648L));
-            int says = x.intValue() / 32768 % 65536;
-            many += (says & sounds) == sounds ? 1 : 0;
+            x = x.multiply(BigInteger.valueOf(1103515245)).add(BigInteger.valueOf(12345));
+            x = x.mod(BigInteger.valueOf(2147483648L));
+            boolean all = true;
+            for (int s : syllables) {
+                all &= x.testBit(15 + s);
+            }
+            many += all ? 1 : 0;
         }
         return many;
-    }
-
-    private static int onlyNull(long seed, int n) {
-        return countSaying(seed, n, 1);
     }
 
     private static void imageAndFrom() {
