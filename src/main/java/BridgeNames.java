@@ -14,7 +14,7 @@ public final class BridgeNames {
     private final River[] images = {new River(), new River()};
     private final boolean[] kept = new boolean[IMAGES];
     private final Reader text = new Reader();
-    private final Search search = new Search(river);
+    private final Search search = new Search();
     private final Fraction fraction = new Fraction();
     private final long[] outcomes = new long[KINDS * NUMBERS];
     private int bads;
@@ -184,7 +184,7 @@ public final class BridgeNames {
         if (!isRow(row) || !isBelow(from, PLACES) || !isBelow(to, PLACES) || i < NONE) {
             return refuseBad(BAD_TEN);
         }
-        search.findWays(river.rows[row], from, to);
+        search.findWays(river, river.rows[row], from, to);
         if (search.found == 0) {
             return NONE;
         }
@@ -198,7 +198,7 @@ public final class BridgeNames {
         if (!isRow(row) || !isBelow(from, PLACES) || !isBelow(to, PLACES) || !isBelow(what, 2)) {
             return refuseBad(BAD);
         }
-        search.findWays(river.rows[row], from, to);
+        search.findWays(river, river.rows[row], from, to);
         if (what == 0) {
             return search.found;
         }
@@ -209,7 +209,7 @@ public final class BridgeNames {
         if (!isRow(row) || !isRow(q) || !isBelow(from, PLACES)) {
             return refuseBad(BAD);
         }
-        return search.fewestToCurse(river.rows[row], river.rows[q], from);
+        return Search.fewestToCurse(river, river.rows[row], river.rows[q], from);
     }
 
     public int above(int bridge, int row, int what) {
@@ -587,7 +587,7 @@ public final class BridgeNames {
 
         /** Two syllables leave no number whose second part is 0. */
         static boolean isCode(int code) {
-            return code <= NUMBERS || code % CODES != 0;
+            return code == 0 || code % CODES != 0;
         }
 
         private static boolean isAt(long name, int place, long other) {
@@ -799,23 +799,16 @@ public final class BridgeNames {
         int bestTaken;
         int bestToll;
         int found;
-        private final River river;
         private final int[] path = new int[MOST_TAKEN];
         private int goal;
 
-        Search(River river) {
-            this.river = river;
-        }
-
-        void findWays(long name, int start, int end) {
+        void findWays(River river, long name, int start, int end) {
             goal = end;
             found = 0;
-            bestTaken = 0;
-            bestToll = 0;
-            goOn(start, name, 0, 0, 0);
+            goOn(river, start, name, 0, 0, 0);
         }
 
-        private void goOn(int place, long name, int gone, int taken, int toll) {
+        private void goOn(River river, int place, long name, int gone, int taken, int toll) {
             if (place == goal) {
                 arrive(taken, toll);
             }
@@ -823,30 +816,30 @@ public final class BridgeNames {
                 return;
             }
             for (int k = 0; k < river.bridges; k++) {
-                if (isOpen(k, place, gone)) {
+                if (isOpen(river, k, place, gone)) {
                     path[taken] = k;
                     long next = river.behind(k, name);
-                    goOn(river.tos[k], next, gone | 1 << k, taken + 1, toll + Name.length(next));
+                    goOn(river, river.tos[k], next, gone | 1 << k, taken + 1, toll + Name.length(next));
                 }
             }
         }
 
         /** Ways of as many bridges come in the order of their rows, so the first of like ones stays. */
         private void arrive(int taken, int toll) {
-            found++;
             boolean isBetter = toll < bestToll || toll == bestToll && taken < bestTaken;
-            if (found == 1 || isBetter) {
+            if (found == 0 || isBetter) {
                 bestToll = toll;
                 bestTaken = taken;
                 System.arraycopy(path, 0, best, 0, MOST_TAKEN);
             }
+            found++;
         }
 
-        int fewestToCurse(long name, long curse, int start) {
-            return fewest(start, name, curse, 0, 0);
+        static int fewestToCurse(River river, long name, long curse, int start) {
+            return fewest(river, start, name, curse, 0, 0);
         }
 
-        private int fewest(int place, long name, long curse, int gone, int taken) {
+        private static int fewest(River river, int place, long name, long curse, int gone, int taken) {
             if (Name.holds(name, curse)) {
                 return taken;
             }
@@ -855,15 +848,16 @@ public final class BridgeNames {
                 return least;
             }
             for (int k = 0; k < river.bridges; k++) {
-                if (isOpen(k, place, gone)) {
-                    int many = fewest(river.tos[k], river.behind(k, name), curse, gone | 1 << k, taken + 1);
+                if (isOpen(river, k, place, gone)) {
+                    long next = river.behind(k, name);
+                    int many = fewest(river, river.tos[k], next, curse, gone | 1 << k, taken + 1);
                     least = many != NONE && (least == NONE || many < least) ? many : least;
                 }
             }
             return least;
         }
 
-        private boolean isOpen(int bridge, int place, int gone) {
+        private static boolean isOpen(River river, int bridge, int place, int gone) {
             return river.froms[bridge] == place && (gone >> bridge & 1) == 0;
         }
     }
@@ -941,9 +935,8 @@ public final class BridgeNames {
             }
         }
 
-        /** How many items; NONE if there is a fault. */
+        /** How many items; NONE if there is a fault: then the draft is of no use. */
         int readInto(River draft) {
-            draft.restart(0);
             tokenEnd = 0;
             step();
             if (!readRiver(draft)) {

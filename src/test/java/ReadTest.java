@@ -113,6 +113,12 @@ public final class ReadTest {
         faults("River 0;", 0);
         faults("rivers 0;", 0);
         faults("rive 0;", 0);
+        faults("riverz 0;", 0);
+        faults("zriver 0;", 0);
+        faults("riveraa 0;", 0);
+        faults("aiver 0;", 0);
+        faults("river`0;", 5);
+        faults("river{0;", 5);
         faults("river;", 5);
         faults("river river;", 6);
         faults("river 0 0;", 8);
