@@ -2,7 +2,7 @@
 public final class BridgeNames {
     public static final int NONE = -1, BAD = -2, NO = -3, FULL = -4;
 
-    private static final int PLACES = 6, KINDS = 6, NUMBERS = 16, MONTHS = 12, ROWS = 4;
+    private static final int PLACES = 6, KINDS = 6, NUMBERS = 16, PAIRS = 96, MONTHS = 12, ROWS = 4;
     private static final int MOST_BRIDGES = 8, MOST_NOTED = 8, MOST_UNDONE = 8, MOST_TAKEN = 6;
     private static final int MOST_BYTES = 150, BYTES = 128, IMAGES = 2;
     private static final int ALL_SAID = 65535, SEEDS = 1000000, MOST_BOATS = 60;
@@ -16,7 +16,8 @@ public final class BridgeNames {
     private final Reader text = new Reader();
     private final Search search = new Search();
     private final Fraction fraction = new Fraction();
-    private final long[] outcomes = new long[KINDS * NUMBERS];
+    private final int[] fitting = new int[PAIRS];
+    private final long[] outcomes = new long[PAIRS];
     private int bads;
     private int nos;
     private int fulls;
@@ -252,26 +253,23 @@ public final class BridgeNames {
         if (!isBridge(bridge) || !isBelow(what, 2)) {
             return refuseBad(BAD_TEN);
         }
-        int many = 0;
-        int first = NONE;
-        for (int pair = 0; pair < KINDS * NUMBERS; pair++) {
-            if (river.notes.agreeWith(bridge, pair)) {
-                many++;
-                first = first == NONE ? pair : first;
-            }
+        int many = collectFitting(bridge);
+        if (what == 0) {
+            return many;
         }
-        return what == 0 ? many : first;
+        return many == 0 ? NONE : fitting[0];
     }
 
     public int tries(int bridge) {
         if (!isBridge(bridge)) {
             return refuseBad(BAD);
         }
+        int many = collectFitting(bridge);
         int best = NONE;
-        int fewest = 0;
-        for (int row = 0; row < ROWS; row++) {
-            int alike = mostAlike(bridge, row);
-            if (alike > 0 && (best == NONE || alike < fewest)) {
+        int fewest = many + 1;
+        for (int row = 0; row < ROWS && many > 0; row++) {
+            int alike = mostAlike(river.rows[row], many);
+            if (alike < fewest) {
                 best = row;
                 fewest = alike;
             }
@@ -452,19 +450,25 @@ public final class BridgeNames {
         return many;
     }
 
-    /** Of the pairs that fit a bridge, how many at most make the same of a row; 0 if none fits. */
-    private int mostAlike(int bridge, int row) {
-        int fitting = 0;
-        for (int pair = 0; pair < KINDS * NUMBERS; pair++) {
+    /** Puts the pairs that fit a bridge into their row, the least first: how many. */
+    private int collectFitting(int bridge) {
+        int many = 0;
+        for (int pair = 0; pair < PAIRS; pair++) {
             if (river.notes.agreeWith(bridge, pair)) {
-                outcomes[fitting] = Rules.appliedPair(river.rows[row], pair, river.monthNow);
-                fitting++;
+                fitting[many] = pair;
+                many++;
             }
         }
+        return many;
+    }
+
+    /** Of the pairs that were collected, how many at most make the same of a name. */
+    private int mostAlike(long name, int many) {
         int most = 0;
-        for (int i = 0; i < fitting; i++) {
+        for (int i = 0; i < many; i++) {
+            outcomes[i] = Rules.appliedPair(name, fitting[i], river.monthNow);
             int alike = 0;
-            for (int k = i; k < fitting; k++) {
+            for (int k = 0; k <= i; k++) {
                 alike += outcomes[k] == outcomes[i] ? 1 : 0;
             }
             most = Math.max(most, alike);
