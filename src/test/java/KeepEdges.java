@@ -103,6 +103,7 @@ final class KeepEdges {
         s.is("the month stays", x.count(1), 1);
         s.full("a 9th bridge leaves all that may be undone", Rivers::full, y -> y.bridge(0, 1, 0, 0));
         s.is("it is 8", Rivers.full().count(3), 8);
+        mixedUndo();
         x.month(2);
         s.is("behind it one may be again", x.count(3), 1);
         s.is("undone", x.undo(), 1);
@@ -116,6 +117,26 @@ final class KeepEdges {
         s.is("its month", x.count(1), 9);
         s.no("none in a new object", Rivers::fresh, y -> y.undo());
         s.no("none behind bridges", () -> Rivers.plain(8), y -> y.undo());
+    }
+
+    /** Of 12 that are of rules and of months by turns the last 8 are undone, each as what it is. */
+    private void mixedUndo() {
+        BridgeNames x = Rivers.plain(8);
+        for (int k = 0; k < 6; k++) {
+            x.rule(k + 2, SWEET, k);
+            x.month(k + 1);
+        }
+        s.is("8 of 12", x.count(3), 8);
+        int[] ahead = {0, 1, 3, 6, 10, 3};
+        for (int k = 5; k >= 2; k--) {
+            s.is("a month is undone", x.undo(), ahead[k]);
+            s.is("its rule stays", x.of(k + 2, 2), SWEET);
+            s.is("a rule is undone", x.undo(), ahead[k]);
+            s.is("its kind", x.of(k + 2, 2), PLAIN);
+        }
+        s.is("the rest is gone", x.undo(), -3);
+        s.is("the first rule stays", x.of(2, 2), SWEET);
+        s.is("the second rule stays", x.of(3, 3), 1);
     }
 
     private void images() {
@@ -137,6 +158,7 @@ final class KeepEdges {
         s.is("not the text", x.count(4), 1);
         s.is("not the fraction", x.part(0), 0);
         s.is("not STATUS", x.status(0), 1);
+        imageOfNoted();
         BridgeNames y = new BridgeNames();
         s.is("a new one is kept", y.image(0), 1);
         y.bridge(0, 1, 0, 0);
@@ -158,6 +180,27 @@ final class KeepEdges {
         s.no("none was kept as 0", Rivers::fresh, z -> z.from(0));
     }
 
+    /** What is noted behind an image is not of it, though it came into the room of what was. */
+    private void imageOfNoted() {
+        BridgeNames x = Rivers.plain(2);
+        Rivers.name(x, 0, 3);
+        Rivers.name(x, 1, 3, 9);
+        x.month(1);
+        x.note(0, 0, 1);
+        x.note(1, 1, 0);
+        x.image(1);
+        long was = x.digest();
+        x.forget();
+        x.month(2);
+        x.note(1, 2, 3);
+        x.note(0, 2, 3);
+        s.is("another is noted", x.fits(0, 0), 64);
+        x.from(1);
+        s.is("what was noted then", x.fits(0, 1), 25);
+        s.is("of the other", x.fits(1, 1), 32);
+        s.is("all of it", x.digest(), was);
+    }
+
     private void imagesUndone() {
         BridgeNames x = Rivers.one(4, SWEET, 5);
         x.month(3);
@@ -174,6 +217,16 @@ final class KeepEdges {
         x.from(0);
         s.is("two may be again", x.count(3), 2);
         s.is("the same ones", x.undo(), 7);
+        x.undo();
+        x.rule(0, DROP, 6);
+        x.month(5);
+        x.rule(0, PLAIN, 9);
+        x.from(0);
+        s.is("not those of afterwards", x.undo(), 7);
+        s.is("the rule then: kind", x.of(0, 2), SWEET);
+        s.is("n", x.of(0, 3), 5);
+        s.is("the month then", x.undo(), 4);
+        s.is("no more", x.undo(), -3);
         x.river(0);
         x.image(1);
         x.from(0);
@@ -269,6 +322,36 @@ final class KeepEdges {
         return x;
     }
 
+    /** Two calls by turns, 512 in all, that answer the same each time. */
+    private void byTurns(String told, ToLongFunction<BridgeNames> one, long answer, ToLongFunction<BridgeNames> other,
+            long otherAnswer) {
+        BridgeNames x = new BridgeNames();
+        for (int k = 0; k < LAST_CALL; k += 2) {
+            s.is(told + ", call " + (k + 1), one.applyAsLong(x), answer);
+            s.is(told + ", call " + (k + 2), other.applyAsLong(x), otherAnswer);
+        }
+    }
+
+    private void sameCalls() {
+        byTurns("say, hush", x -> x.say(3, 15), 1, x -> x.hush(3), 1);
+        byTurns("type, clear", x -> x.type(127), 1, x -> x.clear(), 1);
+        byTurns("month, undo", x -> x.month(11), 11, x -> x.undo(), 0);
+        byTurns("bridge, river", x -> x.bridge(5, 0, FEAST, 15), 0, x -> x.river(11), 1);
+        byTurns("image, from", x -> x.image(1), 1, x -> x.from(1), 1);
+        byTurns("forget, read", x -> x.forget(), 0, x -> x.read(), -10);
+        byTurns("at, of", x -> x.at(3, -1), 0, x -> x.of(0, 0), -2);
+        byTurns("way, ways", x -> x.way(0, 5, 5, -1), 0, x -> x.ways(0, 5, 5, 0), 1);
+        byTurns("curse, boats", x -> x.curse(0, 1, 5), 0, x -> x.boats(0, 999999, 60), 60);
+        byTurns("part, count", x -> x.part(1), 1, x -> x.count(4), 0);
+        byTurns("status, undo", x -> x.status(2), 0, x -> x.undo(), -3);
+        byTurns("digest", x -> x.digest(), hashed(0, 0, 0, 0, 0, 0, 0, 0, 0, 0, 1), x -> x.count(0), 0);
+        // two calls made it
+        BridgeNames x = Rivers.one(3, SWEET, 7);
+        for (int call = 3; call <= LAST_CALL; call++) {
+            s.is("rule, call " + call, x.rule(0, SWEET, 7), 23);
+        }
+    }
+
     private void calls() {
         for (int k = 0; k < FACE.size(); k++) {
             BridgeNames early = builtIn(BUILD.size());
@@ -283,6 +366,7 @@ final class KeepEdges {
             }
             s.is("so often", x.status(what), what == 2 ? 199 : LAST_CALL - 1);
         }
+        sameCalls();
         BridgeNames x = builtIn(LAST_CALL);
         for (int k = 0; k < 5000; k++) {
             FACE.get(k % FACE.size()).applyAsLong(x);

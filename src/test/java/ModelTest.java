@@ -2,7 +2,9 @@ import java.util.Random;
 
 /** Runs of calls drawn by a fixed seed: the class and the model must answer alike, and keep alike. */
 public final class ModelTest {
-    private static final int RUNS = 1500, CALLS = 300;
+    private static final int RUNS = 4000, LAST_CALL = 512;
+    /** What one step and the looks behind it may take: a text of 150 bytes, told anew and read. */
+    private static final int DEAREST_STEP = 160;
     private static final Due DUE = new Due("ModelTest");
     private static final String[] TEXTS = {
         "river 3;bridge 0 1 1 5;bridge 1 2 2 1;bridge 0 2 3 0;bridge 2 3 4 7;row 0 1 2 3;row 1 5;",
@@ -16,6 +18,7 @@ public final class ModelTest {
     private BridgeNames x = new BridgeNames();
     private Model model = new Model();
     private int bridges = 0;
+    private int calls = 0;
 
     private ModelTest(long seed) {
         random = new Random(seed);
@@ -49,6 +52,7 @@ public final class ModelTest {
     }
 
     private void same(String call, long got, long want) {
+        calls++;
         DUE.is(call, got, want);
     }
 
@@ -155,7 +159,7 @@ public final class ModelTest {
     }
 
     private void run() {
-        for (int call = 0; call < CALLS; call++) {
+        while (calls < LAST_CALL - DEAREST_STEP) {
             if (random.nextInt(5) < 2) {
                 change(random.nextInt(22));
             } else {
@@ -166,6 +170,7 @@ public final class ModelTest {
         for (int what = 0; what < 3; what++) {
             same("status", x.status(what), model.status(what));
         }
+        DUE.holds("no more than 512 calls, but " + calls, calls <= LAST_CALL);
     }
 
     public static void main(String[] args) {

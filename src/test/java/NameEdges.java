@@ -298,6 +298,10 @@ final class NameEdges {
         s.is("not twice by one bridge", y.curse(0, 1, 0), -1);
         y.bridge(0, 1, SWEET, 3);
         s.is("by another", y.curse(0, 1, 0), 3);
+        BridgeNames w = Rivers.plain(8);
+        w.rule(6, SWEET, 3);
+        Rivers.name(w, 1, 3, 3);
+        s.is("not twice by one of the last bridges", w.curse(0, 1, 0), -1);
         BridgeNames z = Rivers.one(0, SWEET, 3);
         z.bridge(2, 3, SWEET, 4);
         Rivers.name(z, 1, 3, 4);

@@ -176,6 +176,9 @@ final class PromiseEdges {
         x.count(-1);
         s.is("there were 8", x.river(11), 8);
         s.is("there were none", x.river(0), 0);
+        for (int place = 1; place < 6; place++) {
+            s.is("no old bridge leads on", x.ways(0, 0, place, 0), 0);
+        }
         s.is("all but the text and the fraction as at first", x.digest(),
             KeepEdges.hashed(0, 0, 0, 0, 150, 0, 0, 0, 0, x.part(0), x.part(1)));
         s.is("the fraction stays", x.part(0), above);
@@ -184,6 +187,11 @@ final class PromiseEdges {
         s.is("the text stays", x.read(), 4);
         s.is("an image stays", x.from(0), 1);
         s.is("with all its bridges", x.count(0), 8);
+        BridgeNames y = Rivers.one(0, SWEET, 15);
+        y.river(0);
+        Rivers.name(y, 1, 15);
+        s.is("no old bridge makes a curse", y.curse(0, 1, 0), -1);
+        s.is("no boat goes through an old bridge", y.boats(0, 0, 60), 60);
     }
 
     private void bridge() {

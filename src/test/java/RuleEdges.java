@@ -5,6 +5,9 @@ final class RuleEdges {
     private static final int PLAIN = Rivers.PLAIN, SWEET = Rivers.SWEET, DROP = Rivers.DROP, TURN = Rivers.TURN;
     private static final int DOUBLE = Rivers.DOUBLE, FEAST = Rivers.FEAST, LEAST = Rivers.LEAST, MOST = Rivers.MOST;
 
+    /** Seeds whose first boat can say all, and nothing. */
+    private static final int SAYS_ALL = 51463, SAYS_NOTHING = 0;
+
     private final Sentences s;
 
     private RuleEdges(Sentences s) {
@@ -139,6 +142,14 @@ final class RuleEdges {
         x.note(0, 2, 0);
         s.is("no pair", x.tries(0), -1);
         s.is("nothing is refused", x.status(0), 0);
+        BridgeNames z = Rivers.one(0, PLAIN, 0);
+        Rivers.name(z, 0, 1);
+        Rivers.name(z, 1, 2, 2);
+        // in a feast 32 leave 1 as it is and 32 make nothing of it; 32 leave 2 2 as it is, 20 make nothing of it
+        s.is("32 twice are as many as 32 once: the first", z.tries(0), 0);
+        Rivers.name(z, 0, 2, 2);
+        Rivers.name(z, 1, 1);
+        s.is("the other way round, too", z.tries(0), 0);
         BridgeNames y = Rivers.one(1, PLAIN, 0);
         Rivers.name(y, 1, 0);
         Rivers.name(y, 2, 15);
@@ -302,6 +313,15 @@ final class RuleEdges {
         BridgeNames x = Rivers.one(0, PLAIN, 0);
         Rivers.name(x, 0, Rivers.count(0, 12));
         s.is("12 of them", x.boats(0, 1, 60), saying(1, 60, Rivers.count(0, 12)));
+        s.is("one that can say all 16: 0 .. 11", x.boats(0, SAYS_ALL, 1), 1);
+        Rivers.name(x, 0, Rivers.count(4, 12));
+        s.is("one that can say all 16: 4 .. 15", x.boats(0, SAYS_ALL, 1), 1);
+        for (int v = 0; v < 16; v++) {
+            Rivers.name(x, 0, v);
+            s.is("one that can say nothing", x.boats(0, SAYS_NOTHING, 1), 0);
+        }
+        x.hush(0);
+        s.is("nothing is said by it, too", x.boats(0, SAYS_NOTHING, 1), 1);
     }
 
     private void flood() {

@@ -201,6 +201,11 @@ final class TextEdges {
         fault("river 0;row 0 ten;", 14);
         fault("rive", 0);
         fault("river 0;brid", 8);
+        fault("diver 0;", 0);
+        fault("rives 0;", 0);
+        fault("river 0;fridge 0 1 0 0;", 8);
+        fault("river 0;cow 0;", 8);
+        fault("river 0;rod 0;", 8);
     }
 
     private void riverAgain() {
