@@ -10,15 +10,18 @@ final class KeepEdges {
         x -> x.river(3), x -> x.bridge(0, 1, SWEET, 3), x -> x.bridge(1, 0, TURN, 0), x -> x.say(0, 1), x -> x.say(0, 2),
         x -> x.say(1, 1), x -> x.note(1, 0, 1), x -> x.month(2), x -> x.image(0), x -> x.rule(0, FEAST, 9),
         x -> x.stammer(0, 1, 5, 3), x -> x.type('r'), x -> x.type('o'), x -> x.type('w'));
-    /** Each call of the face. */
-    private static final List<ToLongFunction<BridgeNames>> FACE = List.of(
+    /** Each call of the face that changes something. */
+    private static final List<ToLongFunction<BridgeNames>> CHANGES = List.of(
         x -> x.river(11), x -> x.bridge(4, 5, DROP, 1), x -> x.rule(1, DROP, 15), x -> x.month(11), x -> x.undo(),
-        x -> x.say(3, 15), x -> x.hush(0), x -> x.type(127), x -> x.clear(), x -> x.read(), x -> x.of(0, 3),
-        x -> x.at(0, 1), x -> x.called(0, 0, 1, 1), x -> x.nothing(0, 0), x -> x.boat(0, 65535, 0, 1, 1),
-        x -> x.way(0, 0, 1, -1), x -> x.ways(0, 0, 0, 0), x -> x.curse(0, 1, 0), x -> x.above(1, 0, 1),
-        x -> x.note(0, 0, 1), x -> x.forget(), x -> x.fits(0, 0), x -> x.tries(0), x -> x.renamed(0, 1),
-        x -> x.stammer(0, 0, 5, 2), x -> x.boats(0, 7, 60), x -> x.flood(0, 7, 60, 0, 1), x -> x.part(1), x -> x.image(1),
-        x -> x.from(0), x -> x.status(0), x -> x.count(3), x -> x.digest(), x -> x.count(99), x -> x.from(1));
+        x -> x.say(3, 15), x -> x.hush(0), x -> x.type(127), x -> x.clear(), x -> x.note(0, 0, 1), x -> x.forget(),
+        x -> x.from(1), x -> x.count(99));
+    /** Each other call, and those that change nothing the second time. */
+    private static final List<ToLongFunction<BridgeNames>> ASKS = List.of(
+        x -> x.read(), x -> x.of(0, 3), x -> x.at(0, 1), x -> x.called(0, 0, 1, 1), x -> x.nothing(0, 0),
+        x -> x.boat(0, 65535, 0, 1, 1), x -> x.way(0, 0, 1, -1), x -> x.ways(0, 0, 0, 0), x -> x.curse(0, 1, 0),
+        x -> x.above(1, 0, 1), x -> x.fits(0, 0), x -> x.tries(0), x -> x.renamed(0, 1), x -> x.stammer(0, 0, 5, 2),
+        x -> x.boats(0, 7, 60), x -> x.flood(0, 7, 60, 0, 1), x -> x.part(1), x -> x.image(1), x -> x.from(0),
+        x -> x.status(0), x -> x.count(0), x -> x.digest());
 
     private final Sentences s;
 
@@ -353,24 +356,50 @@ final class KeepEdges {
     }
 
     private void calls() {
-        for (int k = 0; k < FACE.size(); k++) {
-            BridgeNames early = builtIn(BUILD.size());
-            BridgeNames late = builtIn(LAST_CALL - 1);
-            ToLongFunction<BridgeNames> call = FACE.get(k);
-            s.is("the 512th call, " + k, call.applyAsLong(late), call.applyAsLong(early));
+        for (ToLongFunction<BridgeNames> call : CHANGES) {
+            lastCall(call);
         }
-        for (int what = 0; what < 3; what++) {
-            BridgeNames x = what == 2 ? Rivers.full() : new BridgeNames();
-            for (int k = 1; k < (what == 2 ? 200 : LAST_CALL); k++) {
-                s.is("refused", what == 0 ? x.month(0) : what == 1 ? x.undo() : x.type(0), -2 - what);
-            }
-            s.is("so often", x.status(what), what == 2 ? 199 : LAST_CALL - 1);
+        for (ToLongFunction<BridgeNames> call : ASKS) {
+            lastCall(call);
+            againAndAgain(call);
         }
         sameCalls();
+        refusedOften();
         BridgeNames x = builtIn(LAST_CALL);
         for (int k = 0; k < 5000; k++) {
-            FACE.get(k % FACE.size()).applyAsLong(x);
+            CHANGES.get(k % CHANGES.size()).applyAsLong(x);
+            ASKS.get(k % ASKS.size()).applyAsLong(x);
         }
         s.is("none of the later calls threw", 1, 1);
+    }
+
+    private void lastCall(ToLongFunction<BridgeNames> call) {
+        BridgeNames early = builtIn(BUILD.size());
+        BridgeNames late = builtIn(LAST_CALL - 1);
+        s.is("the 512th call", call.applyAsLong(late), call.applyAsLong(early));
+    }
+
+    private void againAndAgain(ToLongFunction<BridgeNames> call) {
+        BridgeNames x = builtIn(BUILD.size());
+        long first = call.applyAsLong(x);
+        for (int k = BUILD.size() + 2; k <= LAST_CALL; k++) {
+            s.is("the same as call " + k, call.applyAsLong(x), first);
+        }
+    }
+
+    private void refusedOften() {
+        BridgeNames bad = new BridgeNames();
+        BridgeNames no = new BridgeNames();
+        for (int k = 1; k < LAST_CALL; k++) {
+            s.is("refused as BAD", bad.month(0), -2);
+            s.is("refused as NO", no.undo(), -3);
+        }
+        s.is("BAD so often", bad.status(0), LAST_CALL - 1);
+        s.is("NO so often", no.status(1), LAST_CALL - 1);
+        BridgeNames full = Rivers.fresh();
+        for (int k = 1; k < LAST_CALL; k++) {
+            s.is("FULL behind 12", full.say(0, 0), k > 12 ? -4 : k);
+        }
+        s.is("FULL so often", full.status(2), LAST_CALL - 1 - 12);
     }
 }
